@@ -351,6 +351,13 @@ public final class PromiseTest {
         dueParents("best: a full structure", x, 14, 8, 10, 0);
         Check.due("best: a full structure, edges", x.edges(), 6);
         Check.due("best: a full structure, orders", x.orders(), 1);
+        allScores(x, 0);
+        x.score(2, 8, 10);
+        x.score(1, 12, 100);
+        x.score(0, 14, 1000);
+        Check.due("best: all against the numbers", x.best(), 1110);
+        dueParents("best: all against the numbers", x, 14, 12, 8, 0);
+        Check.due("best: all against the numbers, orders", x.orders(), 1);
     }
 
     private static void noneAllowed() {

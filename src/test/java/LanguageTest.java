@@ -1,0 +1,57 @@
+import java.io.IOException;
+import java.nio.file.Files;
+import java.nio.file.Path;
+import java.util.regex.Matcher;
+import java.util.regex.Pattern;
+
+/** The rules of LANGUAGE.md that the words of the source can show; run from the project's folder. */
+public final class LanguageTest {
+    private static final Path SOURCE = Path.of("src/main/java/StructureLearner.java");
+    private static final String[] FORBIDDEN = {
+        "import", "package", "interface", "enum", "record", "float", "double", "null", "var",
+        "throw", "throws", "try", "catch", "finally", "synchronized", "assert", "instanceof",
+        "String", "Math", "Integer", "Long", "System", "Arrays", "Object", "protected",
+        "toString", "equals", "hashCode", "getClass", "clone", "length",
+    };
+
+    public static void main(String[] args) throws IOException {
+        String code = withoutComments(Files.readString(SOURCE));
+        for (String word : FORBIDDEN) {
+            Check.due("uses of " + word, count("\\b" + word + "\\b", code), 0);
+        }
+        Check.due("lambdas and method references", count("->|::", code), 0);
+        Check.due("text", count("\"", code), 0);
+        Check.due("classes", count("\\bclass\\b", code), 1);
+        Check.due("static initialisers", count("\\bstatic\\s*\\{", code), 0);
+        Check.due("arrays of arrays", count("\\]\\s*\\[", code), 0);
+        arraysAreFields(code);
+        callsInCalls(code);
+        Check.end();
+    }
+
+    private static String withoutComments(String source) {
+        return source.replaceAll("(?s)/\\*.*?\\*/", "").replaceAll("//[^\n]*", "");
+    }
+
+    private static int count(String pattern, String code) {
+        Matcher matcher = Pattern.compile(pattern).matcher(code);
+        int count = 0;
+        while (matcher.find()) {
+            count++;
+        }
+        return count;
+    }
+
+    private static void arraysAreFields(String code) {
+        String field = "(?m)^    private final int\\[\\] \\w+ = new int\\[[1-9]\\d*\\];";
+        Check.due("things made elsewhere than in a field", count("\\bnew\\b", code) - count(field, code), 0);
+    }
+
+    // A name and a bracket inside the brackets behind another name is a call
+    // inside a call, unless one of the two is a word of the language.
+    private static void callsInCalls(String code) {
+        String words = "(?!(?:if|for|while|switch|return)\\b)";
+        String call = "\\b" + words + "\\w+\\([^()]*\\b" + words + "\\w+\\(";
+        Check.due("calls in the arguments of calls", count(call, code), 0);
+    }
+}
