@@ -1,6 +1,8 @@
 import java.io.IOException;
 import java.nio.file.Files;
 import java.nio.file.Path;
+import java.util.Map;
+import java.util.TreeMap;
 import java.util.regex.Matcher;
 import java.util.regex.Pattern;
 
@@ -26,6 +28,7 @@ public final class LanguageTest {
         Check.due("arrays of arrays", count("\\]\\s*\\[", code), 0);
         arraysAreFields(code);
         callsInCalls(code);
+        methods(code);
         Check.end();
     }
 
@@ -53,5 +56,32 @@ public final class LanguageTest {
         String words = "(?!(?:if|for|while|switch|return)\\b)";
         String call = "\\b" + words + "\\w+\\([^()]*\\b" + words + "\\w+\\(";
         Check.due("calls in the arguments of calls", count(call, code), 0);
+    }
+
+    private static void methods(String code) {
+        Map<String, String> bodies = new TreeMap<>();
+        Matcher method = Pattern.compile("(?ms)^    (?:public|private)[\\w ]*? (\\w+)\\([^()]*\\) \\{\n(.*?)^    \\}").matcher(code);
+        while (method.find()) {
+            bodies.put(method.group(1), method.group(2));
+            Check.holds(method.group(1) + " is short", method.group(2).lines().count() <= 60);
+        }
+        Check.due("methods found", bodies.size(), StructureLearner.class.getDeclaredMethods().length + 1);
+        for (String name : bodies.keySet()) {
+            Check.holds("calls from " + name + " go at most six deep", endsWithin(6, name, bodies));
+        }
+    }
+
+    // Recursion never ends within any depth, so this finds it too.
+    private static boolean endsWithin(int depth, String name, Map<String, String> bodies) {
+        if (depth == 0) {
+            return false;
+        }
+        for (String called : bodies.keySet()) {
+            boolean calls = count("\\b" + called + "\\(", bodies.get(name)) > 0;
+            if (calls && !endsWithin(depth - 1, called, bodies)) {
+                return false;
+            }
+        }
+        return true;
     }
 }
