@@ -1,6 +1,8 @@
 import java.io.IOException;
 import java.nio.file.Files;
 import java.nio.file.Path;
+import java.util.ArrayDeque;
+import java.util.Deque;
 import java.util.Map;
 import java.util.TreeMap;
 import java.util.regex.Matcher;
@@ -28,6 +30,7 @@ public final class LanguageTest {
         Check.due("arrays of arrays", count("\\]\\s*\\[", code), 0);
         arraysAreFields(code);
         callsInCalls(code);
+        loopsEnd(code);
         methods(code);
         Check.end();
     }
@@ -50,12 +53,39 @@ public final class LanguageTest {
         Check.due("things made elsewhere than in a field", count("\\bnew\\b", code) - count(field, code), 0);
     }
 
-    // A name and a bracket inside the brackets behind another name is a call
-    // inside a call, unless one of the two is a word of the language.
+    // A call is a name with a bracket behind it, unless the name is a word of the language.
     private static void callsInCalls(String code) {
-        String words = "(?!(?:if|for|while|switch|return)\\b)";
-        String call = "\\b" + words + "\\w+\\([^()]*\\b" + words + "\\w+\\(";
-        Check.due("calls in the arguments of calls", count(call, code), 0);
+        Matcher mark = Pattern.compile("(\\b\\w+)?\\s*\\(|\\)").matcher(code);
+        Deque<Boolean> open = new ArrayDeque<>();
+        int found = 0;
+        while (mark.find()) {
+            if (mark.group().equals(")")) {
+                open.pop();
+                continue;
+            }
+            String name = mark.group(1);
+            boolean isCall = name != null && !name.matches("if|for|while|switch|return");
+            if (isCall && open.contains(true)) {
+                found++;
+            }
+            open.push(isCall);
+        }
+        Check.due("calls in the arguments of calls", found, 0);
+    }
+
+    // Every loop counts up to a constant, and nothing but its head moves the counter.
+    private static void loopsEnd(String code) {
+        String head = "for \\(int (\\w+) = 0; \\1 < [A-Z]+; \\1\\+\\+\\) \\{";
+        Check.due("loops of another form", count("\\b(?:for|while|do)\\b", code) - count(head, code), 0);
+        Matcher loop = Pattern.compile("(?ms)^( +)" + head.replace("\\1", "\\2") + "\n(.*?)^\\1\\}").matcher(code);
+        int from = 0;
+        while (loop.find(from)) {
+            String counter = loop.group(2);
+            String set = "\\b" + counter + "\\s*(?:[-+*/%&|^]|<<|>>>?)?=(?!=)";
+            String step = "\\b" + counter + "(?:\\+\\+|--)|(?:\\+\\+|--)" + counter + "\\b";
+            Check.due("moves of the counter " + counter + " in its loop", count(set + "|" + step, loop.group(3)), 0);
+            from = loop.start(3);
+        }
     }
 
     private static void methods(String code) {
